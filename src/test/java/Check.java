@@ -1,0 +1,85 @@
+import java.util.NoSuchElementException;
+
+/** What the tests share: answers compared, exceptions named, texts fed. */
+final class Check {
+    interface Call {
+        int answer();
+    }
+
+    private static int checks;
+    private static int wrong;
+
+    private Check() {
+    }
+
+    /** The answer as a text, or the name of what was thrown. */
+    static String tell(Call call) {
+        try {
+            return Integer.toString(call.answer());
+        } catch (IllegalStateException | IllegalArgumentException | IndexOutOfBoundsException
+                | NoSuchElementException e) {
+            return e.getClass().getSimpleName();
+        }
+    }
+
+    static void same(String what, Object got, Object due) {
+        checks++;
+        if (!due.equals(got)) {
+            wrong++;
+            if (wrong <= 40) {
+                System.out.println(what + " answered " + got + ", due is " + due);
+            }
+        }
+    }
+
+    static void due(String what, Call call, Object due) {
+        same(what, tell(call), due.toString());
+    }
+
+    static void state(String what, Call call) {
+        due(what, call, "IllegalStateException");
+    }
+
+    static void argument(String what, Call call) {
+        due(what, call, "IllegalArgumentException");
+    }
+
+    static void bounds(String what, Call call) {
+        due(what, call, "IndexOutOfBoundsException");
+    }
+
+    static void none(String what, Call call) {
+        due(what, call, "NoSuchElementException");
+    }
+
+    static void ends() {
+        System.out.println(checks + " answers looked at, " + wrong + " not as due");
+        if (wrong != 0 || checks == 0) {
+            System.exit(1);
+        }
+    }
+
+    /** Brings a text of characters 0 to 255 to an empty tape. */
+    static void feed(LoopForge forge, String text) {
+        for (int at = 0; at < text.length(); at += 20) {
+            int[] words = new int[5];
+            for (int k = 0; k < 20; k++) {
+                int b = at + k < text.length() ? text.charAt(at + k) : 'x';
+                words[k / 4] = words[k / 4] << 8 | b;
+            }
+            forge.feed(words[0], words[1], words[2], words[3], words[4]);
+        }
+        forge.end(text.length());
+    }
+
+    static int read(LoopForge forge, String text) {
+        feed(forge, text);
+        return forge.text();
+    }
+
+    static LoopForge of(String text) {
+        LoopForge forge = new LoopForge();
+        same("text of " + text, read(forge, text), -1);
+        return forge;
+    }
+}
