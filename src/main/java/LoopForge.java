@@ -659,7 +659,11 @@ public final class LoopForge {
         }
 
         private boolean skipNumber(int limit) {
-            return value() <= limit && skip(SIGN_NUMBER);
+            if (sign() != SIGN_NUMBER || value() > limit) {
+                return false;
+            }
+            at++;
+            return true;
         }
 
         private boolean skip(int wanted) {
@@ -887,8 +891,11 @@ public final class LoopForge {
                 tryRow(chosen);
                 chosen = highestWithout();
             }
+            if (chosen >= 0) {
+                return false;
+            }
             moveToZero();
-            return chosen < 0;
+            return true;
         }
 
         /** Of the ROWS without a cycle the first of the greatest HEIGHT, or -1. */
@@ -996,8 +1003,8 @@ public final class LoopForge {
         }
 
         private void moveToZero() {
-            int least = Integer.MAX_VALUE;
-            greatest = 0;
+            int least = cycle[0];
+            greatest = cycle[0];
             for (int x = 0; x < loop.size; x++) {
                 least = Math.min(least, cycle[x]);
                 greatest = Math.max(greatest, cycle[x]);
@@ -1225,11 +1232,8 @@ public final class LoopForge {
         /** The ROUND that brings what is at a cycle in ROUND 0 to cycle t, or -1. */
         private int roundAt(int t, int first) {
             int way = t - first;
-            if (way < 0 || rest(way, distance) != 0) {
-                return -1;
-            }
-            int round = quotient(way, distance);
-            return round < settings[SETTING_ROUNDS] ? round : -1;
+            int round = way < 0 ? -1 : quotient(way, distance);
+            return round < settings[SETTING_ROUNDS] && round * distance == way ? round : -1;
         }
 
         private void bringValues(int t) {
