@@ -6,6 +6,7 @@ public final class LayTest {
         spansOverRounds();
         withoutSpans();
         notLaid();
+        needHasItsLimit();
         needBoundsTheDistance();
         wrongInputs();
         Check.ends();
@@ -96,6 +97,31 @@ public final class LayTest {
         Check.due("run as written", () -> above.run(false), 176);
         above.set(1, 18);
         Check.due("lay at 198", above::lay, 198);
+        LoopForge next = Check.of(circle(11).replace("r10 = r9 *", "r10 = r9 +"));
+        next.set(1, 20);
+        Check.due("least by circles", () -> next.count(5), 201);
+        Check.due("lay at 201", next::lay, 0);
+    }
+
+    /** At DISTANCE 1 its NEED is (rows - 2) * (time + 1) + 1: the last ROW uses the first, too. */
+    private static LoopForge longSpan(int rows, int time) {
+        StringBuilder text = new StringBuilder("r0 = i + 1 ");
+        for (int x = 1; x < rows; x++) {
+            text.append("r" + x + " = r" + (x - 1) + " - " + (x == rows - 1 ? "r0 " : "1 "));
+        }
+        LoopForge forge = Check.of(text.toString());
+        forge.set(0, time);
+        forge.set(4, 8);
+        forge.set(7, 16);
+        return forge;
+    }
+
+    private static void needHasItsLimit() {
+        LoopForge at = longSpan(7, 18);
+        Check.due("need of 96", at::lay, 1);
+        counts(at, 1, 109, 7, 108, 96);
+        LoopForge above = longSpan(8, 15);
+        Check.due("need of 97", above::lay, 2);
     }
 
     private static void needBoundsTheDistance() {
