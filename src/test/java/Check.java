@@ -61,15 +61,23 @@ final class Check {
 
     /** Brings a text of characters 0 to 255 to an empty tape. */
     static void feed(LoopForge forge, String text) {
-        for (int at = 0; at < text.length(); at += 20) {
-            int[] words = new int[5];
-            for (int k = 0; k < 20; k++) {
-                int b = at + k < text.length() ? text.charAt(at + k) : 'x';
-                words[k / 4] = words[k / 4] << 8 | b;
-            }
-            forge.feed(words[0], words[1], words[2], words[3], words[4]);
+        // What does not fill a feed comes first: behind the others it could be too much for the tape.
+        int at = text.length() % 20;
+        if (at > 0) {
+            feed20(forge, text.substring(0, at) + "xxxxxxxxxxxxxxxxxxx");
+            forge.end(at);
         }
-        forge.end(text.length());
+        for (; at < text.length(); at += 20) {
+            feed20(forge, text.substring(at));
+        }
+    }
+
+    private static void feed20(LoopForge forge, String bytes) {
+        int[] words = new int[5];
+        for (int k = 0; k < 20; k++) {
+            words[k / 4] = words[k / 4] << 8 | bytes.charAt(k);
+        }
+        forge.feed(words[0], words[1], words[2], words[3], words[4]);
     }
 
     static int read(LoopForge forge, String text) {

@@ -621,10 +621,8 @@ final class Oracle {
     int runWritten() {
         registers = begin.clone();
         cells = new int[4][1024];
-        for (int j = 0; j < 1024; j++) {
-            cells[0][j] = (j * 7) ^ 21;
-            cells[1][j] = j * j + 3;
-            cells[2][j] = 5 - j;
+        for (int k = 0; k < 4096; k++) {
+            cells[k / 1024][k % 1024] = first(k / 1024, k % 1024);
         }
         int steps = 0;
         for (int i = 0; i < set[ROUNDS]; i++) {
@@ -641,6 +639,10 @@ final class Oracle {
             }
         }
         return steps;
+    }
+
+    static int first(int a, int j) {
+        return a == 0 ? (j * 7) ^ 21 : a == 1 ? j * j + 3 : a == 2 ? 5 - j : 0;
     }
 
     int cycles() {

@@ -1,3 +1,6 @@
+import java.util.ArrayList;
+import java.util.Collections;
+import java.util.List;
 import java.util.Random;
 
 /** Loops made by a seeded source, and texts spoilt: the class and the oracle must tell the same. */
@@ -9,7 +12,7 @@ public final class OracleTest {
     private static int wider;
 
     public static void main(String[] args) {
-        int loops = args.length > 0 ? Integer.parseInt(args[0]) : 1500;
+        int loops = args.length > 0 ? Integer.parseInt(args[0]) : 2500;
         int seed = args.length > 1 ? Integer.parseInt(args[1]) : 1;
         for (int k = 0; k < loops; k++) {
             Random random = new Random(seed * 1000003L + k);
@@ -25,28 +28,52 @@ public final class OracleTest {
         Check.ends();
     }
 
-    private static void compareLoop(Random random, String text) {
-        LoopForge forge = new LoopForge();
-        Oracle oracle = new Oracle();
-        for (int what = 0; what <= 8; what++) {
-            if (random.nextInt(3) > 0) {
-                int v = 1 + random.nextInt(what < 4 ? 20 : what < 7 ? 4 : what == 7 ? 8 : 64);
-                if (what < 4 && random.nextInt(4) > 0) {
-                    v = 1 + v % 5;
+    /** What is done to an object before it is asked: no object is asked so much that it has more than 512 calls. */
+    private record Recipe(int[][] sets, int[] begins, String text) {
+        static Recipe of(Random random, String text) {
+            List<int[]> sets = new ArrayList<>();
+            for (int what = 0; what <= 8; what++) {
+                if (random.nextInt(3) > 0) {
+                    int v = 1 + random.nextInt(what < 4 ? 20 : what < 7 ? 4 : what == 7 ? 8 : 64);
+                    sets.add(new int[] {what, what < 4 && random.nextInt(4) > 0 ? 1 + v % 5 : v});
                 }
-                Check.same("set", forge.set(what, v), oracle.set(what, v));
             }
+            return new Recipe(sets.toArray(new int[0][]), random.ints(32).toArray(), text);
         }
-        for (int r = 0; r < 32; r++) {
-            int v = random.nextInt();
-            forge.begin(r, v);
-            oracle.begin[r] = v;
+
+        LoopForge forge() {
+            LoopForge forge = new LoopForge();
+            for (int[] one : sets) {
+                forge.set(one[0], one[1]);
+            }
+            for (int r = 0; r < 32; r++) {
+                forge.begin(r, begins[r]);
+            }
+            Check.read(forge, text);
+            return forge;
         }
-        Check.same("text of " + text, Check.read(forge, text), oracle.read(text));
+
+        Oracle oracle() {
+            Oracle oracle = new Oracle();
+            for (int[] one : sets) {
+                oracle.set(one[0], one[1]);
+            }
+            System.arraycopy(begins, 0, oracle.begin, 0, 32);
+            oracle.read(text);
+            return oracle;
+        }
+    }
+
+    private static void compareLoop(Random random, String text) {
+        Recipe recipe = Recipe.of(random, text);
+        Oracle oracle = recipe.oracle();
+        LoopForge forge = recipe.forge();
+        Check.same("reason of " + text, forge.count(1), oracle.reason);
+        Check.same("rows of " + text, forge.count(0), oracle.rows.size());
         if (oracle.wrong < 0) {
-            compareWaits(forge, oracle, text);
-            compareLaying(forge, oracle, text);
-            compareRuns(forge, oracle, text);
+            compareWaits(forge, oracle, random, text);
+            compareLaying(recipe.forge(), oracle, text);
+            compareRuns(recipe, oracle, random);
         }
     }
 
@@ -59,21 +86,18 @@ public final class OracleTest {
         Check.same("rows of " + text, forge.count(0), oracle.rows.size());
     }
 
-    private static void compareWaits(LoopForge forge, Oracle oracle, String text) {
+    private static void compareWaits(LoopForge forge, Oracle oracle, Random random, String text) {
         oracle.findWaits();
-        Check.same("rows of " + text, forge.count(0), oracle.rows.size());
         Check.same("waits of " + text, forge.count(3), oracle.waits.size());
         Check.same("least by units of " + text, forge.count(4), oracle.leastByUnits());
         Check.same("least by circles of " + text, forge.count(5), oracle.leastByCircles());
-        for (int x = 0; x < oracle.rows.size(); x++) {
-            for (int y = 0; y < oracle.rows.size(); y++) {
-                for (int d = 0; d < 6; d++) {
-                    compareDelay(forge, oracle, x, y, d);
-                }
+        int rows = oracle.rows.size();
+        for (int k = 0; k < 100; k++) {
+            compareDelay(forge, oracle, random.nextInt(rows), random.nextInt(rows), random.nextInt(4));
+            if (!oracle.waits.isEmpty()) {
+                Oracle.Wait w = oracle.waits.get(random.nextInt(oracle.waits.size()));
+                compareDelay(forge, oracle, w.x(), w.y(), w.d());
             }
-        }
-        for (Oracle.Wait w : oracle.waits) {
-            compareDelay(forge, oracle, w.x(), w.y(), w.d());
         }
     }
 
@@ -110,24 +134,38 @@ public final class OracleTest {
         }
     }
 
-    private static void compareRuns(LoopForge forge, Oracle oracle, String text) {
-        Check.same("steps of " + text, forge.run(false), oracle.runWritten());
-        compareLast(forge, oracle, text);
+    private static void compareRuns(Recipe recipe, Oracle oracle, Random random) {
+        LoopForge written = recipe.forge();
+        Check.same("steps of " + recipe.text(), written.run(false), oracle.runWritten());
+        compareLast(written, oracle, random, recipe.text());
         if (oracle.distance > 0) {
-            forge.begin(0, forge.begin(0, 0));
-            Check.same("cycles of " + text, forge.run(true), oracle.cycles());
-            compareLast(forge, oracle, text);
+            LoopForge laid = recipe.forge();
+            laid.lay();
+            Check.same("cycles of " + recipe.text(), laid.run(true), oracle.cycles());
+            compareLast(laid, oracle, random, recipe.text());
         }
     }
 
-    private static void compareLast(LoopForge forge, Oracle oracle, String text) {
+    /** All registers; of the ints those that have been set, as many as there are calls for, and some others. */
+    private static void compareLast(LoopForge forge, Oracle oracle, Random random, String text) {
         for (int r = 0; r < 32; r++) {
             Check.same("register " + r + " of " + text, forge.register(r), oracle.registers[r]);
         }
-        for (int a = 0; a < 4; a++) {
-            for (int j = 0; j < 1024; j++) {
-                Check.same("cell of " + text, forge.cell(a, j), oracle.cells[a][j]);
+        List<Integer> set = new ArrayList<>();
+        for (int k = 0; k < 4096; k++) {
+            if (oracle.cells[k / 1024][k % 1024] != Oracle.first(k / 1024, k % 1024)) {
+                set.add(k);
             }
         }
+        Collections.shuffle(set, random);
+        for (int k = 0; k < 200; k++) {
+            compareCell(forge, oracle, k < set.size() ? set.get(k) : random.nextInt(4096), text);
+        }
+    }
+
+    private static void compareCell(LoopForge forge, Oracle oracle, int which, String text) {
+        int a = which / 1024;
+        int j = which % 1024;
+        Check.same("cell " + a + " " + j + " of " + text, forge.cell(a, j), oracle.cells[a][j]);
     }
 }

@@ -1,3 +1,5 @@
+import java.util.Arrays;
+
 /** Promises 11, 12 and 13: run, register and cell. */
 public final class RunTest {
     public static void main(String[] args) {
@@ -98,30 +100,33 @@ public final class RunTest {
         forge.begin(3, 1234567);
         forge.lay();
         forge.run(false);
-        int[] registers = new int[32];
-        int[][] cells = new int[4][1024];
-        for (int r = 0; r < 32; r++) {
-            registers[r] = forge.register(r);
-        }
-        for (int a = 0; a < 4; a++) {
-            for (int j = 0; j < 1024; j++) {
-                cells[a][j] = forge.cell(a, j);
-            }
-        }
+        int[] registers = registers(forge);
+        int[] cells = cells(forge);
         // Another run between, so that nothing of the first one is left.
         forge.begin(3, 5);
         forge.run(true);
         Check.same("other begins", forge.register(3) != registers[3], true);
         forge.begin(3, 1234567);
         forge.run(true);
+        Check.same("registers", Arrays.toString(registers(forge)), Arrays.toString(registers));
+        Check.same("cells", Arrays.toString(cells(forge)), Arrays.toString(cells));
+    }
+
+    private static int[] registers(LoopForge forge) {
+        int[] all = new int[32];
         for (int r = 0; r < 32; r++) {
-            Check.same("register " + r, forge.register(r), registers[r]);
+            all[r] = forge.register(r);
         }
-        for (int a = 0; a < 4; a++) {
-            for (int j = 0; j < 1024; j++) {
-                Check.same("cell " + a + " " + j, forge.cell(a, j), cells[a][j]);
-            }
+        return all;
+    }
+
+    /** Those that the ROWS set, and some around them. */
+    private static int[] cells(LoopForge forge) {
+        int[] all = new int[200];
+        for (int k = 0; k < all.length; k++) {
+            all[k] = forge.cell(k % 4, 507 + k / 4);
         }
+        return all;
     }
 
     private static void cycles() {
