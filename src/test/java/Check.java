@@ -6,10 +6,29 @@ final class Check {
         int answer();
     }
 
+    /** Far above what any test needs, also on a slow machine. */
+    private static final int SECONDS = 300;
+
     private static int checks;
     private static int wrong;
 
+    static {
+        Thread watch = new Thread(Check::endIfACallDoesNot);
+        watch.setDaemon(true);
+        watch.start();
+    }
+
     private Check() {
+    }
+
+    private static void endIfACallDoesNot() {
+        try {
+            Thread.sleep(1000L * SECONDS);
+        } catch (InterruptedException e) {
+            return;
+        }
+        System.out.println("a call has not ended");
+        Runtime.getRuntime().halt(1);
     }
 
     /** The answer as a text, or the name of what was thrown. */

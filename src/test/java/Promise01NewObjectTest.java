@@ -9,6 +9,7 @@ public final class Promise01NewObjectTest {
         width4();
         beginGives0();
         objectsAreApart();
+        is512CallsLong();
         Check.ends();
     }
 
@@ -119,5 +120,22 @@ public final class Promise01NewObjectTest {
             int r = k;
             Check.due("begin " + r, () -> forge.begin(r, 1), 0);
         }
+    }
+
+    /** Not one of the promises, but what they all rest on: the last call is answered as the first. */
+    private static void is512CallsLong() {
+        LoopForge forge = new LoopForge();
+        int calls = 0;
+        while (calls < 508) {
+            forge.feed(0x72303D72, 0x302A333B, 0, 0, 0);
+            forge.text();
+            forge.lay();
+            forge.run(true);
+            calls += 4;
+        }
+        Check.due("call 509", () -> forge.set(8, 2), 16);
+        Check.due("call 510", () -> forge.lay(), 3);
+        Check.due("call 511", () -> forge.run(true), 6);
+        Check.due("call 512", () -> forge.register(0), 0);
     }
 }

@@ -24,6 +24,7 @@ public final class Promise04TextTest {
         theTapeIsEmptyThen();
         aWrongTextLeavesNoLoop();
         aRightTextReplacesTheLoop();
+        nothingOfTheTextBeforeIsLeft();
         takesLayingAndRunAway();
         leavesSettingsAndBegins();
         Check.ends();
@@ -506,6 +507,35 @@ public final class Promise04TextTest {
             Check.due("steps", () -> forge.run(false), state == States.NEW ? 32 : 20);
             Check.due("r9", () -> forge.register(9), 1);
             Check.due("r2", () -> forge.register(2), state == States.NEW ? 0 : -3);
+        }
+    }
+
+    /** One object reads, lays and runs two texts: of the second all is as if there were no first. */
+    private static void nothingOfTheTextBeforeIsLeft() {
+        String[] texts = {
+            "r0=min(r1 2) r1=max(r0 3) r2=r2+1", "r0=a[5] r1=a[1*i] a[2*i]=r1", "a[-3*i-9]=r0 a[0]=1 r0=a[7]",
+            "r0=r1*r2 r1=r0*r2 r2=r0*r1", "r0=a[5] r2=a[1*i] a[2*i]=i", "r0=i+1 r1=r0*1",
+            "a[0]=i b[1*i]=i c[-1*i]=-1 d[3]=r1", "r2=r2*3",
+            "r5=i<<1 r6=r5>>2 r7=r6|r5 r8=r7&r6 r9=r8^r7", many("a[1*i]=i ", 48), "? r0=r1+r2", "r3=1+1 r3=1+1"};
+        for (String first : texts) {
+            for (String second : texts) {
+                LoopForge forge = new LoopForge();
+                Check.read(forge, first);
+                layAndRun(forge);
+                Check.read(forge, second);
+                LoopForge fresh = new LoopForge();
+                Check.read(fresh, second);
+                layAndRun(forge);
+                layAndRun(fresh);
+                States.alike(second + " behind " + first, States.planSeen(forge), States.planSeen(fresh));
+            }
+        }
+    }
+
+    private static void layAndRun(LoopForge forge) {
+        if (forge.count(0) > 0) {
+            forge.lay();
+            forge.run(true);
         }
     }
 

@@ -231,10 +231,11 @@ public final class Promise08DelayTest {
                         + "] r1=a[" + step + (sign.isEmpty() ? "+" : "-") + 3 * c + "] r2=a[" + step + "+1]");
                 waitsOnly(forge, 0, 1, 3, 1);
                 waits(forge, 2, 0, 3, 0);
-                waitsNot(forge, 0, 2, 3);
+                waitsNever(forge, 0, 2);
                 if (c > 1) {
-                    waitsNot(forge, 0, 3, 1);
-                    waitsNot(forge, 3, 0, 1);
+                    // Never the same int, for they are always one off.
+                    waitsNever(forge, 0, 3);
+                    waitsNever(forge, 3, 0);
                 }
             }
         }

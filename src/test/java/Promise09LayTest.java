@@ -180,6 +180,11 @@ public final class Promise09LayTest {
     }
 
     private static void groupsInTheirOrder() {
+        // Without room in one group alone: WIDTH (the set gives way, and goes to 1), reckoning, places, *.
+        lays(of("r0=i+i a[1]=r3 r1=i*i r2=1*i", 7, 2), 2, 5, 0, 1, 1, 0);
+        lays(of("r0=1+1 r1=i+1 r2=1*1 r3=1*i"), 2, 5, 0, 1, 1, 0);
+        lays(of("r0=i+i r1=r1+1 r2=a[1] a[1*i]=i", 7, 2), 2, 7, 0, 1, 2, 3);
+        lays(of("r0=1-i r1=i+1 r2=1*1 r3=1*r1"), 2, 7, 0, 1, 2, 3);
         lays(of("r0=r1*i r1=1*1 r2=i-i r3=i+i r4=1+1 r5=1*r2"), 3, 11, 3, 2, 0, 1, 2, 1);
     }
 
@@ -204,6 +209,9 @@ public final class Promise09LayTest {
         LoopForge last = of("a[1*i]=r1 a[1*i+2]=r1 r0=a[1] a[0]=i r1=a[1*i-3]");
         lays(last, 6, 40, 0, 3, 4, 1, 2);
         lays(of("a[0]=r2 r0=i+r2 r1=a[1*i-2] a[1*i]=1 r2=a[1*i]", 7, 1), 6, 40);
+        // Both take each other's cycle at 5, for the take has to begin before the set, and not 1 before: all 16 TRIES.
+        lays(of("r0=a[0] a[0]=r1", 3, 5), 6, 2, 0, 1);
+        lays(of("r0=r3*1 r1=r2*1 r2=r0*1 r3=r0*1"), 7, 4, 0, 1, 3, 4);
         // The 57th would do at DISTANCE 7, and at 8, but there are 56.
         LoopForge seven = of("a[0]=i a[1*i-1]=r2 a[0]=1 a[0]=1 r0=a[1*i+2] r1=i+1 r2=a[1*i-3]", 4, 3);
         Check.due("least by circles", () -> seven.count(5), 7);
@@ -268,6 +276,13 @@ public final class Promise09LayTest {
         Check.due("least by units", () -> forge.count(4), 16);
         Check.due("lay", forge::lay, 16);
         Check.due("tries", () -> forge.count(8), 48);
+        // 16 of each: the second half of the * finds both + in each cycle that has no * yet.
+        text.setLength(0);
+        for (int x = 0; x < 48; x++) {
+            text.append(x < 16 ? "r" + x + "=i+1 " : x < 32 ? "r" + x + "=i*1 " : "a[1*i]=i ");
+        }
+        LoopForge back = of(text.toString());
+        lays(back, 16, 84);
         LoopForge one = of("a[1*i]=1");
         lays(one, 1, 1, 0);
     }

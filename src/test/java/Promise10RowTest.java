@@ -221,6 +221,18 @@ public final class Promise10RowTest {
         rows(forge, END, 3, 3);
         rows(forge, OFFSET, 1, 0);
         needAndSize(forge, 2, 2);
+        // ROWS 2, 1, 0, 3: on the ring of 16 cycles they get 1 to 7, then 9 to 11, 12 and 13, 14 and 15.
+        LoopForge falling = laid("r0=a[0] r1=i*1 r2=i+1 r3=r0+r1 r4=r3+r2");
+        Check.due("distance", () -> falling.count(6), 2);
+        rows(falling, BEGIN, 4, 3, 1, 6, -1);
+        rows(falling, END, 5, 5, 7, 7, -1);
+        rows(falling, OFFSET, 4, 3, 0, 4, -1);
+        needAndSize(falling, 8, 8);
+        // The same, but what begins first stands first.
+        LoopForge mixed = laid("r2=i+1 r0=a[0] r1=i*1 r3=r0+r1 r4=r3+r2");
+        rows(mixed, BEGIN, 1, 4, 3, 6, -1);
+        rows(mixed, OFFSET, 0, 4, 3, 4, -1);
+        needAndSize(mixed, 8, 8);
     }
 
     private static void ofSeveralByRows() {

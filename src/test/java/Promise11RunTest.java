@@ -17,6 +17,7 @@ public final class Promise11RunTest {
         setsAndTakesAsLaid();
         setsOfOneIntAsLaid();
         longSpansAsLaid();
+        fullLoops();
         bothTellTheSame();
         Check.ends();
     }
@@ -282,7 +283,40 @@ public final class Promise11RunTest {
                 int four = i * i + 2 + i;
                 Check.due("d of " + i, () -> forge.cell(3, 512 + i), 3 * four + 3);
             }
-            Check.due("r8", () -> forge.register(8), 3 * (63 * 63 + 65) + 3);
+            // What a ROW gave in the last ROUND is not lost behind those that begin their first ROUND later.
+            int four = 63 * 63 + 65;
+            int[] due = {0, 63 * 63, four - 64, four - 63, four, four + 1, four + 2, 2 * four + 3, 3 * four + 3};
+            for (int k = 0; k < due.length; k++) {
+                int r = k;
+                Check.due("register " + r, () -> forge.register(r), due[r]);
+            }
+        }
+    }
+
+    /** 48 ROWS, 64 ROUNDS: each ROW adds one to what the one before set. */
+    private static void fullLoops() {
+        StringBuilder text = new StringBuilder("r0=r31+1 ");
+        for (int x = 1; x < 32; x++) {
+            text.append("r" + x + "=r" + (x - 1) + "+1 ");
+        }
+        for (int x = 0; x < 16; x++) {
+            text.append("d[1*i+" + 64 * (x % 4) + "]=r" + (2 * x + 1) + " ");
+        }
+        LoopForge forge = of(text.toString(), 8, 64);
+        Check.due("rows", () -> forge.count(0), 48);
+        Check.due("lay", forge::lay, 32);
+        Check.due("cycles", () -> forge.run(true), forge.count(9) + 1 + 63 * 32);
+        for (int laid = 0; laid < 2; laid++) {
+            forge.run(laid == 1);
+            for (int k = 0; k < 32; k++) {
+                int r = k;
+                Check.due("register " + r, () -> forge.register(r), 63 * 32 + r + 1);
+            }
+            for (int k = 0; k < 64; k++) {
+                int i = k;
+                Check.due("d of " + i, () -> forge.cell(3, 512 + i), 32 * i + 26);
+                Check.due("d of " + i, () -> forge.cell(3, 704 + i), 32 * i + 32);
+            }
         }
     }
 

@@ -1,3 +1,5 @@
+import java.util.function.Consumer;
+
 /**
  * Objects in each state that the document tells apart, and what can be seen of one: enough of all that it has, but
  * no more than the 512 calls that an object is used for.
@@ -67,10 +69,19 @@ enum States {
     /** The call is refused in each of the states, and leaves behind what an object has that never saw it. */
     static void refused(String what, Call call, String exception, States... states) {
         for (States state : states) {
-            LoopForge forge = state.make();
-            Check.due(what + ", " + state, () -> call.answer(forge), exception);
-            alike("behind refused " + what + ", " + state, allSeen(forge), allSeen(state.make()));
+            changesNothing("refused " + what + ", " + state, state, forge ->
+                    Check.due(what + ", " + state, () -> call.answer(forge), exception));
         }
+    }
+
+    private static void changesNothing(String what, States state, Consumer<LoopForge> call) {
+        LoopForge all = state.make();
+        call.accept(all);
+        alike("behind " + what, allSeen(all), allSeen(state.make()));
+        // allSeen has refused calls, too: what only these would change is the same for both.
+        LoopForge next = state.make();
+        call.accept(next);
+        alike("next behind " + what, nextSeen(next), nextSeen(state.make()));
     }
 
     static void refusedArgument(String what, Call call, States... states) {
@@ -92,9 +103,7 @@ enum States {
     /** The call is answered in each of the states, and changes nothing at all. */
     static void onlyTells(String what, Call call, States... states) {
         for (States state : states) {
-            LoopForge forge = state.make();
-            call.answer(forge);
-            alike("behind " + what + ", " + state, allSeen(forge), allSeen(state.make()));
+            changesNothing(what + ", " + state, state, call::answer);
         }
     }
 
@@ -178,6 +187,8 @@ enum States {
         add(all, "bytes", () -> forge.count(2));
         add(all, "run as laid", () -> forge.run(true));
         all.append(runSeen(forge));
+        add(all, "lay", forge::lay);
+        all.append(layingSeen(forge));
         add(all, "run as written", () -> forge.run(false));
         all.append(runSeen(forge));
         for (int k = 0; k < 32; k++) {
@@ -191,6 +202,19 @@ enum States {
         add(all, "text", forge::text);
         all.append(loopSeen(forge));
         add(all, "run of it", () -> forge.run(false));
+        all.append(runSeen(forge));
+        return all.toString();
+    }
+
+    /** What comes of it by calls that are answered. */
+    private static String nextSeen(LoopForge forge) {
+        StringBuilder all = new StringBuilder();
+        if (forge.count(0) == 0) {
+            add(all, "text", forge::text);
+        }
+        add(all, "lay", forge::lay);
+        all.append(layingSeen(forge));
+        add(all, "run as laid", () -> forge.run(true));
         all.append(runSeen(forge));
         return all.toString();
     }
