@@ -27,12 +27,16 @@ public final class FaceTest {
         "int run(boolean) throws IllegalStateException",
         "int set(int, int) throws IllegalArgumentException",
         "int text()"};
+    /** Only what the rules leave to no program: what this class happens not to use is free. */
     private static final String[] RULED_OUT = {
-        "->", "::", "\\btry\\b", "\\bcatch\\b", "\\bfinally\\b", "\\bsynchronized\\b", "\\bassert\\b", "Exact\\(",
-        "static \\{", "\\binstanceof\\b", "System\\.(?!arraycopy)", "Math\\.(?!max|min|floorDiv|floorMod)",
-        "throw new (?!IllegalStateException|IllegalArgumentException|IndexOutOfBoundsException"
-            + "|NoSuchElementException)",
-        "import (?!java\\.util\\.Arrays;|java\\.util\\.NoSuchElementException;)"};
+        "(?m)^(?!\\s*(case|default)\\b).*->", "::", "\\bfinally\\b", "\\bsynchronized\\b", "\\bassert\\b", "Exact\\(",
+        "static \\{", "\\btry \\(", "System\\.(?!arraycopy)", "\\bThread\\b", "\\bRandom\\b", "\\bvolatile\\b",
+        "getMessage", "\\bThrowable\\b", "\\bError\\b", "\\bNullPointerException\\b", "\\bArrayIndexOutOfBounds",
+        "\\bClassCastException\\b", "\\bNegativeArraySize", "\\bArrayStoreException\\b", "catch \\(Exception\\b",
+        "throw new (?!IllegalStateException|IllegalArgumentException|IndexOutOfBoundsException|ArithmeticException"
+            + "|UnsupportedOperationException|NoSuchElementException|RuntimeException)",
+        "throw (?!new )",
+        "import (?!java\\.util\\.(Arrays|ArrayList|List|Iterator|NoSuchElementException);)", "(?m)^package "};
 
     public static void main(String[] args) throws IOException {
         face();
@@ -84,7 +88,8 @@ public final class FaceTest {
         for (Class<?> one : inside) {
             Check.same(one + " is static", Modifier.isStatic(one.getModifiers()), true);
             for (Method method : one.getDeclaredMethods()) {
-                Check.same(method + " has a name of its own", open.contains(method.getName()), false);
+                boolean hidden = Modifier.isPrivate(method.getModifiers());
+                Check.same(method + " has a name of its own", hidden && open.contains(method.getName()), false);
                 Check.same(method + " has few parameters", method.getParameterCount() <= 7, true);
             }
             int fields = 0;
@@ -120,6 +125,6 @@ public final class FaceTest {
             Check.same("short: " + methods.group().lines().findFirst().get().trim(),
                     methods.group().lines().count() <= 60, true);
         }
-        Check.same("methods were found", found > 60, true);
+        Check.same("methods were found", found >= FACE.length, true);
     }
 }

@@ -21,6 +21,7 @@ public final class OracleTest {
         for (int k = 0; k < 4 * loops; k++) {
             compareSpoilt(new Random(seed * 2000003L + k));
         }
+        eachSignInEachPlace();
         System.out.println(laid + " laid, " + notLaid + " not laid, " + takenBack + " with cycles taken back, "
                 + later + " above the least distance, " + wider + " with a size above the need");
         // Without these the comparison would say little.
@@ -78,9 +79,33 @@ public final class OracleTest {
     }
 
     private static void compareSpoilt(Random random) {
+        compareText(Texts.spoilt(random));
+    }
+
+    /** Before each sign of each form, and in its place. */
+    private static void eachSignInEachPlace() {
+        String[] rows = {"r1 = r2 << - 7", "r1 = min ( i - 3 )", "r1 = - 4 - 7", "r3 = b [ - 4 * i + 250 ]",
+            "a [ 3 * i - 1 ] = r9", "c [ 2 * i ] = - 9", "d [ 4 ] = i"};
+        String[] all = "r1 r31 a d i 0 4 5 250 251 1000 + - * & | ^ << >> < = [ ] ( ) min max".split(" ");
+        for (String row : rows) {
+            String[] signs = row.split(" ");
+            for (int k = 0; k <= signs.length; k++) {
+                List<String> before = List.of(signs).subList(0, k);
+                List<String> behind = List.of(signs).subList(k, signs.length);
+                List<String> next = behind.subList(Math.min(1, behind.size()), behind.size());
+                for (String sign : all) {
+                    String begin = String.join(" ", before) + " " + sign + " ";
+                    compareText(begin + String.join(" ", behind));
+                    compareText(begin + String.join(" ", next));
+                    compareText("r0 = 1 + 2 " + begin + String.join(" ", next) + " r5 = 6 * 7");
+                }
+            }
+        }
+    }
+
+    private static void compareText(String text) {
         LoopForge forge = new LoopForge();
         Oracle oracle = new Oracle();
-        String text = Texts.spoilt(random);
         Check.same("text of " + text, Check.read(forge, text), oracle.read(text));
         Check.same("reason of " + text, forge.count(1), oracle.reason);
         Check.same("rows of " + text, forge.count(0), oracle.rows.size());

@@ -12,6 +12,7 @@ public final class Promise04TextTest {
         arraysAToD();
         operands();
         operators();
+        eachRowHasItsMark();
         firstNumbersOfPlaces();
         otherNumbersOfPlaces();
         formsOfPlaces();
@@ -20,6 +21,7 @@ public final class Promise04TextTest {
         rowsAreFullAt4096Bytes();
         setTwice();
         theFirstWrongSignIsTold();
+        whatIsNoSignStandsNowhere();
         reason1GoesBeforeReason2();
         theTapeIsEmptyThen();
         aWrongTextLeavesNoLoop();
@@ -282,6 +284,23 @@ public final class Promise04TextTest {
         wrong("r0 = min(1 2))", 13);
     }
 
+    /** One = in each form of a ROW, no other sign and no second one in its place. */
+    private static void eachRowHasItsMark() {
+        String[] left = {"r0", "r0", "r0", "r0", "a[0]", "a[1*i-2]"};
+        String[] right = {"i + 1", "-7 + 1", "min(1 2)", "b[2*i]", "r1", "-3"};
+        for (int k = 0; k < left.length; k++) {
+            int at = left[k].length() + 1;
+            right(left[k] + " = " + right[k], 1);
+            wrong(left[k] + " " + right[k], at);
+            for (String other : new String[] {"==", "+", "-", "<", "<<", "(", "[", "]", "i", "1", "r2", "c", "max", ":="}) {
+                wrong(left[k] + " " + other + " " + right[k], other.equals("==") ? at + 1 : at);
+            }
+            wrong(left[k] + " = = " + right[k], at + 2);
+            wrong(left[k] + " =", at + 1);
+            wrong("= " + right[k], 0);
+        }
+    }
+
     /** The first number, 0 to 4, with - before it or not. */
     private static void firstNumbersOfPlaces() {
         for (int c = 0; c <= 1001; c += c < 12 || c >= 245 && c < 255 || c > 990 ? 1 : 7) {
@@ -446,6 +465,27 @@ public final class Promise04TextTest {
         wrong("a[1 * i + 251 ?", 10);
         wrong(many("a[0]=1 ", 47) + "a[0]=? a[0]=1", 334);
         wrong(many("a[0]=1 ", 48) + "? a[0]=?", 336);
+    }
+
+    /** Before, in place of and behind each sign of each form, in the first ROW and behind another. */
+    private static void whatIsNoSignStandsNowhere() {
+        String[] rows = {"r1 = r2 << - 7", "r1 = min ( i r2 )", "r1 = i * 7", "r3 = b [ - 4 * i + 250 ]",
+            "c [ 2 * i ] = - 9", "d [ 17 ] = i"};
+        String[] none = {"1001", "0001001", "99999999999", "r32", "r99", "r", "rr1", "R1", ">", ">=", "m", "mi", "ma",
+            "mx", "e", "I", "A", "?", ",", "{", "\"", "\0", "\u00ff"};
+        for (String row : rows) {
+            String[] signs = row.split(" ");
+            for (int k = 0; k <= signs.length; k++) {
+                String before = String.join(" ", java.util.Arrays.copyOf(signs, k)) + " ";
+                String behind = " " + String.join(" ", java.util.Arrays.copyOfRange(signs, k, signs.length));
+                String next = behind.replaceFirst("^ [^ ]+", "");
+                for (String one : none) {
+                    wrong(before + one + behind, before.length());
+                    wrong(before + one + next, before.length());
+                    wrong("r0 = i + 1 " + before + one + behind, 11 + before.length());
+                }
+            }
+        }
     }
 
     private static void reason1GoesBeforeReason2() {

@@ -61,7 +61,7 @@ public final class Promise09LayTest {
     }
 
     private static void leavesTheRest() {
-        States.onlyTells("lay again", LoopForge::lay, States.UNLAID, States.LAID, States.RUN_AS_LAID);
+        States.onlyTells("lay again", LoopForge::lay, States.UNLAID, States.LAID, States.RUN_AS_LAID, States.RUN_TAKEN);
         for (States state : States.WITH_LOOP) {
             LoopForge forge = state.make();
             String before = States.loopSeen(forge) + States.runSeen(forge);
@@ -93,6 +93,17 @@ public final class Promise09LayTest {
         Check.due("lay", above::lay, 191);
         LoopForge far = of(States.circle(32), 1, 20);
         Check.due("lay of 640", far::lay, 0);
+        // A circle of 200 without any slack, in which a take and a set must begin in one cycle: at 200 only two can.
+        LoopForge tight = of("r0=a[0] a[0]=5 r1=a[0] r2=r1*1 r3=r2*1 r4=r3*1 r5=r4*1 r6=r5*1 r7=r6*1 r8=r7*1 a[0]=r8",
+                1, 20, 2, 20, 3, 20);
+        Check.due("least by circles", () -> tight.count(5), 200);
+        Check.due("lay with one", tight::lay, 0);
+        Check.due("distance", () -> tight.count(6), 0);
+        tight.set(5, 2);
+        lays(tight, 200, 11, 0, 0, 20, 40, 60, 80, 100, 120, 140, 160, 180);
+        tight.set(5, 1);
+        tight.set(1, 19);
+        lays(tight, 194, 11, 0, 1, 21, 41, 60, 79, 98, 117, 136, 155, 174);
     }
 
     private static void notLaid() {

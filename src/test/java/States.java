@@ -5,7 +5,9 @@ import java.util.function.Consumer;
  * no more than the 512 calls that an object is used for.
  */
 enum States {
-    NEW, FED, WRONG, SET_TWICE, READ, UNLAID, LAID, RUN_AS_WRITTEN, RUN_AS_LAID;
+    NEW, FED, WRONG, SET_TWICE, READ, UNLAID, LAID, RUN_AS_WRITTEN, RUN_AS_LAID,
+    /** Laid and run; then a WRONG text, set() or begin() has taken away what it takes. */
+    LOOP_TAKEN, LAYING_TAKEN, RUN_TAKEN;
 
     interface Call {
         int answer(LoopForge forge);
@@ -16,11 +18,13 @@ enum States {
     /** What stands on the TAPE of all states but NEW. */
     static final String WAITING = "r5 = r6 + 7 ; waits on the tape";
 
-    static final States[] WITHOUT_LOOP = {NEW, FED, WRONG, SET_TWICE};
-    static final States[] WITHOUT_LAYING = {NEW, FED, WRONG, SET_TWICE, READ, UNLAID, RUN_AS_WRITTEN};
-    static final States[] WITHOUT_RUN = {NEW, FED, WRONG, SET_TWICE, READ, UNLAID, LAID};
-    static final States[] WITH_LOOP = {READ, UNLAID, LAID, RUN_AS_WRITTEN, RUN_AS_LAID};
-    static final States[] WITH_LAYING = {LAID, RUN_AS_LAID};
+    static final States[] WITHOUT_LOOP = {NEW, FED, WRONG, SET_TWICE, LOOP_TAKEN};
+    static final States[] WITHOUT_LAYING = {
+        NEW, FED, WRONG, SET_TWICE, READ, UNLAID, RUN_AS_WRITTEN, LOOP_TAKEN, LAYING_TAKEN};
+    static final States[] WITHOUT_RUN = {
+        NEW, FED, WRONG, SET_TWICE, READ, UNLAID, LAID, LOOP_TAKEN, LAYING_TAKEN, RUN_TAKEN};
+    static final States[] WITH_LOOP = {READ, UNLAID, LAID, RUN_AS_WRITTEN, RUN_AS_LAID, LAYING_TAKEN, RUN_TAKEN};
+    static final States[] WITH_LAYING = {LAID, RUN_AS_LAID, RUN_TAKEN};
     static final States[] WITH_RUN = {RUN_AS_WRITTEN, RUN_AS_LAID};
 
     LoopForge make() {
@@ -49,11 +53,25 @@ enum States {
         } else if (this != FED) {
             Check.read(forge, LOOP);
         }
-        if (this == UNLAID || this == LAID || this == RUN_AS_LAID) {
+        boolean taken = this == LOOP_TAKEN || this == LAYING_TAKEN || this == RUN_TAKEN;
+        if (this == UNLAID || this == LAID || this == RUN_AS_LAID || taken) {
             forge.lay();
         }
-        if (this == RUN_AS_WRITTEN || this == RUN_AS_LAID) {
-            forge.run(this == RUN_AS_LAID);
+        if (this == RUN_AS_WRITTEN || this == RUN_AS_LAID || taken) {
+            forge.run(this != RUN_AS_WRITTEN);
+        }
+        if (taken) {
+            take(forge);
+        }
+    }
+
+    private void take(LoopForge forge) {
+        if (this == LOOP_TAKEN) {
+            Check.read(forge, LOOP + " r1");
+        } else if (this == LAYING_TAKEN) {
+            forge.set(2, 5);
+        } else {
+            forge.begin(2, -3);
         }
     }
 
@@ -69,8 +87,13 @@ enum States {
     /** The call is refused in each of the states, and leaves behind what an object has that never saw it. */
     static void refused(String what, Call call, String exception, States... states) {
         for (States state : states) {
-            changesNothing("refused " + what + ", " + state, state, forge ->
-                    Check.due(what + ", " + state, () -> call.answer(forge), exception));
+            LoopForge asked = state.make();
+            String got = Check.tell(() -> call.answer(asked));
+            Check.same(what + ", " + state, got, exception);
+            // What was not refused can leave behind what no other call ever ends with.
+            if (got.equals(exception)) {
+                changesNothing("refused " + what + ", " + state, state, forge -> Check.tell(() -> call.answer(forge)));
+            }
         }
     }
 
