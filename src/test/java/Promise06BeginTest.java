@@ -5,10 +5,13 @@ public final class Promise06BeginTest {
     public static void main(String[] args) {
         tellsWhatItGave();
         refusesOtherRegisters();
-        theFirstRoundUsesIt();
-        allIntsAreGiven();
         takesTheRunAway();
         leavesTheRest();
+        // Each with objects of its own: what the one RUN left must not stand in for the other.
+        for (boolean laid : new boolean[] {false, true}) {
+            theFirstRoundUsesIt(laid);
+            allIntsAreGiven(laid);
+        }
         Check.ends();
     }
 
@@ -38,7 +41,7 @@ public final class Promise06BeginTest {
         }
     }
 
-    private static void theFirstRoundUsesIt() {
+    private static void theFirstRoundUsesIt(boolean laid) {
         // r0 uses what ROUND 0 has from BEGIN, then what ROW 1 set; ROW 2 never sees what BEGIN gives for r1.
         LoopForge forge = Check.of("r0 = r0 + r1 r1 = i + 100 r2 = r1 + r9");
         forge.set(8, 3);
@@ -47,16 +50,14 @@ public final class Promise06BeginTest {
         forge.begin(2, 5555);
         forge.begin(9, 40);
         forge.lay();
-        for (int laid = 0; laid < 2; laid++) {
-            forge.run(laid == 1);
-            Check.due("r0", () -> forge.register(0), 7 + 1000 + 100 + 101);
-            Check.due("r1", () -> forge.register(1), 102);
-            Check.due("r2", () -> forge.register(2), 142);
-            Check.due("r9, which no row sets", () -> forge.register(9), 40);
-        }
+        forge.run(laid);
+        Check.due("r0", () -> forge.register(0), 7 + 1000 + 100 + 101);
+        Check.due("r1", () -> forge.register(1), 102);
+        Check.due("r2", () -> forge.register(2), 142);
+        Check.due("r9, which no row sets", () -> forge.register(9), 40);
     }
 
-    private static void allIntsAreGiven() {
+    private static void allIntsAreGiven(boolean laid) {
         for (int k = 0; k < 32; k++) {
             int r = k;
             int target = (r + 1) % 32;
@@ -64,12 +65,10 @@ public final class Promise06BeginTest {
             forge.lay();
             for (int v : VALUES) {
                 forge.begin(r, v);
-                for (int laid = 0; laid < 2; laid++) {
-                    forge.run(laid == 1);
-                    Check.due("what uses r" + r, () -> forge.register(target), v);
-                    Check.due("r" + r, () -> forge.register(r), v);
-                    Check.due("the int that it sets", () -> forge.cell(0, 512), v);
-                }
+                forge.run(laid);
+                Check.due("what uses r" + r, () -> forge.register(target), v);
+                Check.due("r" + r, () -> forge.register(r), v);
+                Check.due("the int that it sets", () -> forge.cell(0, 512), v);
             }
         }
     }

@@ -277,6 +277,14 @@ public final class Promise10RowTest {
     }
 
     private static void sizeAboveNeed() {
+        // ROWS 0, 2, 1, 3: on the ring of 15 cycles they get 1 and 2, 4 to 6, 8 and 9, 12 and 13: an OFFSET above NEED
+        // less 1. Of 12 cycles the last one would wrap around onto the first, of 9 it would find no gap.
+        LoopForge above = laid("r0=r1+i r1=r3+r0 r2=i+r2 r3=r1+r0");
+        Check.due("distance", () -> above.count(6), 3);
+        rows(above, BEGIN, 1, 2, 1, 3);
+        rows(above, END, 2, 3, 3, 4);
+        rows(above, OFFSET, 0, 2, 1, 3);
+        needAndSize(above, 3, 5);
         LoopForge forge = laid("r1=i+1 r2=r1+1 r3=r2+1 r4=r3+1 r5=r4+1 r6=r5+1 r7=r6+r5 r8=r7+r4",
                 0, 18, 4, 8, 7, 16);
         rows(forge, BEGIN, 18, 36, 54, 72, 90, 108, 126, -1);

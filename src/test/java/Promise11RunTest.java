@@ -12,13 +12,17 @@ public final class Promise11RunTest {
         shiftsByTheLowest5Bits();
         lessIs1Or0();
         smallestAndGreatest();
-        usesOfThisRoundAndTheOneBefore();
-        rowsInTheirOrder();
-        setsAndTakesAsLaid();
-        setsOfOneIntAsLaid();
-        longSpansAsLaid();
-        fullLoops();
         bothTellTheSame();
+        // Each with objects of its own: what the one RUN left must not stand in for the other.
+        for (boolean laid : new boolean[] {false, true}) {
+            usesOfThisRoundAndTheOneBefore(laid);
+            rowsInTheirOrder(laid);
+            setsAndTakes(laid);
+            setsOfOneInt(laid);
+            longSpans(laid);
+            fullLoops(laid);
+            theLeastIsTakenFromAll(laid);
+        }
         Check.ends();
     }
 
@@ -124,15 +128,34 @@ public final class Promise11RunTest {
             Check.due("d", () -> forge.cell(3, 512), 3);
             Check.due("r0", () -> forge.register(0), 2);
         }
+        // From end to end of each ARRAY, also behind another text and in the other way to run.
+        for (int k = 0; k < 16; k++) {
+            char array = (char) ('a' + k / 4);
+            LoopForge two = of(array + "[4*i+250]=-77 " + array + "[-4*i-250]=-77 " + array + "[1*i]=-77", 8, 64);
+            two.lay();
+            two.run(k % 2 == 1);
+            Check.due("the last place", () -> two.cell(array - 'a', 1014), -77);
+            Check.read(two, "r0=" + array + "[4*i+250] r1=" + array + "[-4*i-250] r2=" + array + "[1*i]");
+            two.lay();
+            two.run(k % 4 > 1);
+            int[] places = {1014, 10, 575};
+            for (int n = 0; n < 3; n++) {
+                int j = places[n];
+                int r = n;
+                int due = array == 'a' ? j * 7 ^ 21 : array == 'b' ? j * j + 3 : array == 'c' ? 5 - j : 0;
+                Check.due("cell " + j + " of " + array, () -> two.cell(array - 'a', j), due);
+                Check.due("taken from " + j + " of " + array, () -> two.register(r), due);
+            }
+        }
     }
 
     private static void gives(String text, int first, int second, int due) {
-        LoopForge forge = of("r0 = " + text);
-        forge.begin(1, first);
-        forge.begin(2, second);
-        forge.lay();
-        for (int laid = 0; laid < 2; laid++) {
-            forge.run(laid == 1);
+        for (boolean laid : new boolean[] {false, true}) {
+            LoopForge forge = of("r0 = " + text);
+            forge.begin(1, first);
+            forge.begin(2, second);
+            forge.lay();
+            forge.run(laid);
             Check.due(text + " of " + first + " and " + second, () -> forge.register(0), due);
         }
     }
@@ -192,46 +215,40 @@ public final class Promise11RunTest {
         }
     }
 
-    private static void usesOfThisRoundAndTheOneBefore() {
+    private static void usesOfThisRoundAndTheOneBefore(boolean laid) {
         // r1 is that of the ROUND before, at first from BEGIN; r0 that of this ROUND.
         LoopForge forge = of("r0=r1+0 r1=i+10 r2=r1+r0 a[1*i]=r0 b[1*i]=r2", 8, 4);
         forge.begin(1, 77);
         forge.lay();
-        for (int laid = 0; laid < 2; laid++) {
-            forge.run(laid == 1);
-            int[] zero = {77, 10, 11, 12};
-            for (int k = 0; k < 4; k++) {
-                int i = k;
-                Check.due("a", () -> forge.cell(0, 512 + i), zero[i]);
-                Check.due("b", () -> forge.cell(1, 512 + i), 10 + i + zero[i]);
-            }
-            Check.due("r0", () -> forge.register(0), 12);
-            Check.due("r1", () -> forge.register(1), 13);
-            Check.due("r2", () -> forge.register(2), 25);
+        forge.run(laid);
+        int[] zero = {77, 10, 11, 12};
+        for (int k = 0; k < 4; k++) {
+            int i = k;
+            Check.due("a", () -> forge.cell(0, 512 + i), zero[i]);
+            Check.due("b", () -> forge.cell(1, 512 + i), 10 + i + zero[i]);
         }
+        Check.due("r0", () -> forge.register(0), 12);
+        Check.due("r1", () -> forge.register(1), 13);
+        Check.due("r2", () -> forge.register(2), 25);
         // With one ROUND none is from the one before.
         forge.set(8, 1);
         forge.lay();
-        for (int laid = 0; laid < 2; laid++) {
-            forge.run(laid == 1);
-            Check.due("r0", () -> forge.register(0), 77);
-            Check.due("r2", () -> forge.register(2), 87);
-        }
+        forge.run(laid);
+        Check.due("r0", () -> forge.register(0), 77);
+        Check.due("r2", () -> forge.register(2), 87);
     }
 
-    private static void rowsInTheirOrder() {
+    private static void rowsInTheirOrder(boolean laid) {
         LoopForge forge = of("r0=d[0] d[0]=7 r1=d[0] d[0]=8 r2=d[0]", 8, 1);
         forge.lay();
-        for (int laid = 0; laid < 2; laid++) {
-            forge.run(laid == 1);
-            Check.due("before", () -> forge.register(0), 0);
-            Check.due("between", () -> forge.register(1), 7);
-            Check.due("behind", () -> forge.register(2), 8);
-            Check.due("at last", () -> forge.cell(3, 512), 8);
-        }
+        forge.run(laid);
+        Check.due("before", () -> forge.register(0), 0);
+        Check.due("between", () -> forge.register(1), 7);
+        Check.due("behind", () -> forge.register(2), 8);
+        Check.due("at last", () -> forge.cell(3, 512), 8);
     }
 
-    private static void setsAndTakesAsLaid() {
+    private static void setsAndTakes(boolean laid) {
         for (int time : new int[] {1, 2, 3, 20}) {
             // A take just as late as the set's TIME allows, and a set as early as a take allows: in its cycle.
             LoopForge forge = of("d[1*i]=i r0=d[1*i] r1=b[1*i] b[1*i]=-1 c[1*i+3]=r1 r2=c[1*i]", 3, time, 5, 8, 7, 16);
@@ -239,62 +256,56 @@ public final class Promise11RunTest {
             Check.same("laid", forge.lay() > 0, true);
             Check.due("set, take", () -> forge.row(1, 0) - forge.row(0, 0), time);
             Check.due("take, set", () -> forge.row(3, 0) - forge.row(2, 0), 0);
-            for (int laid = 0; laid < 2; laid++) {
-                forge.run(laid == 1);
-                Check.due("r0", () -> forge.register(0), 8);
-                Check.due("r1", () -> forge.register(1), 520 * 520 + 3);
-                Check.due("r2", () -> forge.register(2), 517 * 517 + 3);
-                Check.due("b", () -> forge.cell(1, 520), -1);
-                Check.due("b behind", () -> forge.cell(1, 521), 521 * 521 + 3);
-                Check.due("c", () -> forge.cell(2, 523), 520 * 520 + 3);
-                Check.due("c before", () -> forge.cell(2, 514), 5 - 514);
-            }
+            forge.run(laid);
+            Check.due("r0", () -> forge.register(0), 8);
+            Check.due("r1", () -> forge.register(1), 520 * 520 + 3);
+            Check.due("r2", () -> forge.register(2), 517 * 517 + 3);
+            Check.due("b", () -> forge.cell(1, 520), -1);
+            Check.due("b behind", () -> forge.cell(1, 521), 521 * 521 + 3);
+            Check.due("c", () -> forge.cell(2, 523), 520 * 520 + 3);
+            Check.due("c before", () -> forge.cell(2, 514), 5 - 514);
         }
     }
 
-    private static void setsOfOneIntAsLaid() {
+    private static void setsOfOneInt(boolean laid) {
         for (int time : new int[] {1, 2, 20}) {
             // The later ROW of a ROUND, and the later ROUND of a ROW, is what stays.
             LoopForge forge = of("a[0]=i a[0]=r9 b[1*i]=i b[1*i-2]=r9 c[0]=i", 3, time, 5, 8, 7, 16);
             forge.begin(9, -5);
             Check.same("laid", forge.lay() > 0, true);
-            for (int laid = 0; laid < 2; laid++) {
-                forge.run(laid == 1);
-                Check.due("a", () -> forge.cell(0, 512), -5);
-                Check.due("b", () -> forge.cell(1, 512), -5);
-                Check.due("b", () -> forge.cell(1, 525), -5);
-                Check.due("b", () -> forge.cell(1, 526), 14);
-                Check.due("b", () -> forge.cell(1, 510), -5);
-                Check.due("c", () -> forge.cell(2, 512), 15);
-            }
+            forge.run(laid);
+            Check.due("a", () -> forge.cell(0, 512), -5);
+            Check.due("b", () -> forge.cell(1, 512), -5);
+            Check.due("b", () -> forge.cell(1, 525), -5);
+            Check.due("b", () -> forge.cell(1, 526), 14);
+            Check.due("b", () -> forge.cell(1, 510), -5);
+            Check.due("c", () -> forge.cell(2, 512), 15);
         }
     }
 
-    private static void longSpansAsLaid() {
+    private static void longSpans(boolean laid) {
         // Values in 128 rotating places, most of them alive over many ROUNDS.
         LoopForge forge = of("r1=i*i r2=r1+1 r3=r2+1 r4=r3+i r5=r4+1 r6=r5+1 r7=r6+r5 r8=r7+r4 d[1*i]=r8",
                 0, 18, 4, 8, 7, 16, 8, 64);
         forge.lay();
         Check.due("size", () -> forge.count(11), 128);
-        for (int laid = 0; laid < 2; laid++) {
-            forge.run(laid == 1);
-            for (int k = 0; k < 64; k++) {
-                int i = k;
-                int four = i * i + 2 + i;
-                Check.due("d of " + i, () -> forge.cell(3, 512 + i), 3 * four + 3);
-            }
-            // What a ROW gave in the last ROUND is not lost behind those that begin their first ROUND later.
-            int four = 63 * 63 + 65;
-            int[] due = {0, 63 * 63, four - 64, four - 63, four, four + 1, four + 2, 2 * four + 3, 3 * four + 3};
-            for (int k = 0; k < due.length; k++) {
-                int r = k;
-                Check.due("register " + r, () -> forge.register(r), due[r]);
-            }
+        forge.run(laid);
+        for (int k = 0; k < 64; k++) {
+            int i = k;
+            int four = i * i + 2 + i;
+            Check.due("d of " + i, () -> forge.cell(3, 512 + i), 3 * four + 3);
+        }
+        // What a ROW gave in the last ROUND is not lost behind those that begin their first ROUND later.
+        int four = 63 * 63 + 65;
+        int[] due = {0, 63 * 63, four - 64, four - 63, four, four + 1, four + 2, 2 * four + 3, 3 * four + 3};
+        for (int k = 0; k < due.length; k++) {
+            int r = k;
+            Check.due("register " + r, () -> forge.register(r), due[r]);
         }
     }
 
     /** 48 ROWS, 64 ROUNDS: each ROW adds one to what the one before set. */
-    private static void fullLoops() {
+    private static void fullLoops(boolean laid) {
         StringBuilder text = new StringBuilder("r0=r31+1 ");
         for (int x = 1; x < 32; x++) {
             text.append("r" + x + "=r" + (x - 1) + "+1 ");
@@ -305,19 +316,43 @@ public final class Promise11RunTest {
         LoopForge forge = of(text.toString(), 8, 64);
         Check.due("rows", () -> forge.count(0), 48);
         Check.due("lay", forge::lay, 32);
-        Check.due("cycles", () -> forge.run(true), forge.count(9) + 1 + 63 * 32);
-        for (int laid = 0; laid < 2; laid++) {
-            forge.run(laid == 1);
-            for (int k = 0; k < 32; k++) {
-                int r = k;
-                Check.due("register " + r, () -> forge.register(r), 63 * 32 + r + 1);
-            }
-            for (int k = 0; k < 64; k++) {
-                int i = k;
-                Check.due("d of " + i, () -> forge.cell(3, 512 + i), 32 * i + 26);
-                Check.due("d of " + i, () -> forge.cell(3, 704 + i), 32 * i + 32);
-            }
+        int cycles = forge.count(9) + 1 + 63 * 32;
+        Check.due("run", () -> forge.run(laid), laid ? cycles : 48 * 64);
+        for (int k = 0; k < 32; k++) {
+            int r = k;
+            Check.due("register " + r, () -> forge.register(r), 63 * 32 + r + 1);
         }
+        for (int k = 0; k < 64; k++) {
+            int i = k;
+            Check.due("d of " + i, () -> forge.cell(3, 512 + i), 32 * i + 26);
+            Check.due("d of " + i, () -> forge.cell(3, 704 + i), 32 * i + 32);
+        }
+    }
+
+    /** The first one that was placed lost cycle 0 and none got it back: the run begins with the least all the same. */
+    private static void theLeastIsTakenFromAll(boolean laid) {
+        LoopForge forge = of("r0=r1*2 r1=r1*3 d[1*i]=r0 r2=d[1*i]", 8, 20);
+        forge.begin(1, 1);
+        Check.due("lay", forge::lay, 3);
+        Check.due("r0", () -> forge.row(0, 0), 1);
+        Check.due("r1", () -> forge.row(1, 0), 0);
+        Check.due("the take, just behind the set", () -> forge.row(3, 0) - forge.row(2, 0), 1);
+        forge.run(laid);
+        for (int k = 0; k < 20; k++) {
+            int i = k;
+            Check.due("d of " + i, () -> forge.cell(3, 512 + i), 2 * power(3, i));
+        }
+        Check.due("r0", () -> forge.register(0), 2 * power(3, 19));
+        Check.due("r1", () -> forge.register(1), power(3, 20));
+        Check.due("r2", () -> forge.register(2), 2 * power(3, 19));
+    }
+
+    private static int power(int base, int times) {
+        int all = 1;
+        for (int k = 0; k < times; k++) {
+            all *= base;
+        }
+        return all;
     }
 
     private static void bothTellTheSame() {

@@ -6,10 +6,13 @@ public final class Promise13CellTest {
         theFirstExceptionThatFits();
         onlyTells();
         atFirst();
-        placesFromEndToEnd();
-        onlyThoseThatAreSet();
-        theLastSetStays();
-        eachArrayApart();
+        // Each with objects of its own: what the one RUN left must not stand in for the other.
+        for (boolean laid : new boolean[] {false, true}) {
+            placesFromEndToEnd(laid);
+            onlyThoseThatAreSet(laid);
+            theLastSetStays(laid);
+            eachArrayApart(laid);
+        }
         Check.ends();
     }
 
@@ -74,73 +77,65 @@ public final class Promise13CellTest {
     }
 
     /** PLACE c * i + k is int 512 + c * i + k: from 10 to 1014. */
-    private static void placesFromEndToEnd() {
+    private static void placesFromEndToEnd(boolean laid) {
         LoopForge forge = Check.of("d[4*i+250]=i d[-4*i-250]=i r0=b[4*i+250] r1=b[-4*i-250] c[250]=1 c[0*i-250]=2 a[0]=3");
         forge.set(8, 64);
         forge.lay();
-        for (int laid = 0; laid < 2; laid++) {
-            forge.run(laid == 1);
-            Check.due("the greatest place", () -> forge.cell(3, 1014), 63);
-            Check.due("the least place", () -> forge.cell(3, 10), 63);
-            Check.due("above it", () -> forge.cell(3, 1015), 0);
-            Check.due("below it", () -> forge.cell(3, 9), 0);
-            Check.due("of ROUND 62", () -> forge.cell(3, 1010), 62);
-            Check.due("of ROUND 62", () -> forge.cell(3, 14), 62);
-            Check.due("of ROUND 0", () -> forge.cell(3, 762), 0);
-            Check.due("of ROUND 1", () -> forge.cell(3, 766), 1);
-            Check.due("of ROUND 1", () -> forge.cell(3, 258), 1);
-            Check.due("taken from the greatest", () -> forge.register(0), 1014 * 1014 + 3);
-            Check.due("taken from the least", () -> forge.register(1), 103);
-            Check.due("250", () -> forge.cell(2, 762), 1);
-            Check.due("-250", () -> forge.cell(2, 262), 2);
-            Check.due("0", () -> forge.cell(0, 512), 3);
-        }
+        forge.run(laid);
+        Check.due("the greatest place", () -> forge.cell(3, 1014), 63);
+        Check.due("the least place", () -> forge.cell(3, 10), 63);
+        Check.due("above it", () -> forge.cell(3, 1015), 0);
+        Check.due("below it", () -> forge.cell(3, 9), 0);
+        Check.due("of ROUND 62", () -> forge.cell(3, 1010), 62);
+        Check.due("of ROUND 62", () -> forge.cell(3, 14), 62);
+        Check.due("of ROUND 0", () -> forge.cell(3, 762), 0);
+        Check.due("of ROUND 1", () -> forge.cell(3, 766), 1);
+        Check.due("of ROUND 1", () -> forge.cell(3, 258), 1);
+        Check.due("taken from the greatest", () -> forge.register(0), 1014 * 1014 + 3);
+        Check.due("taken from the least", () -> forge.register(1), 103);
+        Check.due("250", () -> forge.cell(2, 762), 1);
+        Check.due("-250", () -> forge.cell(2, 262), 2);
+        Check.due("0", () -> forge.cell(0, 512), 3);
     }
 
-    private static void onlyThoseThatAreSet() {
+    private static void onlyThoseThatAreSet(boolean laid) {
         for (int c = -4; c <= 4; c++) {
             LoopForge forge = Check.of("a[" + c + "*i+7]=-9");
             forge.set(8, 10);
             forge.lay();
-            for (int laid = 0; laid < 2; laid++) {
-                forge.run(laid == 1);
-                for (int n = 470; n < 570; n++) {
-                    int j = n;
-                    int way = c == 0 ? 0 : (j - 519) / c;
-                    boolean set = c * way == j - 519 && way >= 0 && way < 10;
-                    Check.due("cell " + j + " by " + c, () -> forge.cell(0, j), set ? -9 : first(0, j));
-                }
+            forge.run(laid);
+            for (int n = 470; n < 570; n++) {
+                int j = n;
+                int way = c == 0 ? 0 : (j - 519) / c;
+                boolean set = c * way == j - 519 && way >= 0 && way < 10;
+                Check.due("cell " + j + " by " + c, () -> forge.cell(0, j), set ? -9 : first(0, j));
             }
         }
     }
 
-    private static void theLastSetStays() {
+    private static void theLastSetStays(boolean laid) {
         LoopForge forge = Check.of("a[0]=i a[1*i]=r9 a[-1*i+20]=r8");
         forge.begin(8, -8);
         forge.begin(9, -9);
         forge.lay();
-        for (int laid = 0; laid < 2; laid++) {
-            forge.run(laid == 1);
-            // ROUND 15 sets PLACE 0 last; of ROW 1 and 2 the later ROUND, in ROUND 10 both, then ROW 2.
-            int[] due = {15, -9, -9, -9, -9, -8, -8, -8, -8, -8, -8, -9, -9, -9, -9, -9, -8, -8, -8, -8, -8};
-            for (int k = 0; k < due.length; k++) {
-                int place = k;
-                Check.due("place " + place, () -> forge.cell(0, 512 + place), due[place]);
-            }
-            Check.due("place 21", () -> forge.cell(0, 533), first(0, 533));
+        forge.run(laid);
+        // ROUND 15 sets PLACE 0 last; of ROW 1 and 2 the later ROUND, in ROUND 10 both, then ROW 2.
+        int[] due = {15, -9, -9, -9, -9, -8, -8, -8, -8, -8, -8, -9, -9, -9, -9, -9, -8, -8, -8, -8, -8};
+        for (int k = 0; k < due.length; k++) {
+            int place = k;
+            Check.due("place " + place, () -> forge.cell(0, 512 + place), due[place]);
         }
+        Check.due("place 21", () -> forge.cell(0, 533), first(0, 533));
     }
 
-    private static void eachArrayApart() {
+    private static void eachArrayApart(boolean laid) {
         LoopForge forge = Check.of("a[1]=1 b[2]=2 c[3]=3 d[4]=4");
         forge.lay();
-        for (int laid = 0; laid < 2; laid++) {
-            forge.run(laid == 1);
-            for (int n = 0; n < 24; n++) {
-                int a = n / 6;
-                int k = n % 6;
-                Check.due("cell " + a + " of place " + k, () -> forge.cell(a, 512 + k), k == a + 1 ? k : first(a, 512 + k));
-            }
+        forge.run(laid);
+        for (int n = 0; n < 24; n++) {
+            int a = n / 6;
+            int k = n % 6;
+            Check.due("cell " + a + " of place " + k, () -> forge.cell(a, 512 + k), k == a + 1 ? k : first(a, 512 + k));
         }
     }
 }
