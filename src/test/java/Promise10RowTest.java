@@ -20,6 +20,7 @@ public final class Promise10RowTest {
         endsWithTheLastUse();
         endsOverRounds();
         needOfEachRound();
+        notWithItselfOfAnotherRound();
         needOfOneCycle();
         withoutSpansSizeIs1();
         offsetsByBegins();
@@ -194,6 +195,25 @@ public final class Promise10RowTest {
         LoopForge five = laid("r0=i+1 r1=i*1 r2=r1+r0 r3=r3*1", 1, 5, 6, 8, 4, 8);
         Check.due("distance", () -> five.count(6), 5);
         needAndSize(five, 3, 3);
+    }
+
+    /** The only SPAN, alive in as many ROUNDS at once as its cycles on the ring: each needs a place. */
+    private static void notWithItselfOfAnotherRound() {
+        for (int time = 1; time <= 20; time++) {
+            LoopForge forge = laid("r0=i+1 a[1*i]=5 r1=a[1*i] a[1*i]=r0", 3, time, 5, 8);
+            int end = time;
+            Check.due("distance", () -> forge.count(6), 1);
+            rows(forge, BEGIN, 1, -1, -1, -1);
+            rows(forge, END, end, -1, -1, -1);
+            rows(forge, OFFSET, 0, -1, -1, -1);
+            needAndSize(forge, end, end);
+            // Of 3 cycles the last set begins in the first one that has room.
+            LoopForge three = laid("r0=i+1 a[1*i]=5 r1=a[1*i] a[1*i]=r0", 3, time);
+            Check.due("distance", () -> three.count(6), 3);
+            int last = three.row(3, CYCLE);
+            rows(three, END, last, -1, -1, -1);
+            needAndSize(three, (last - 1) / 3 + 1, (last - 1) / 3 + 1);
+        }
     }
 
     private static void needOfOneCycle() {

@@ -20,6 +20,7 @@ public final class Promise11RunTest {
             setsAndTakes(laid);
             setsOfOneInt(laid);
             longSpans(laid);
+            oneLongSpan(laid);
             fullLoops(laid);
             theLeastIsTakenFromAll(laid);
         }
@@ -302,6 +303,19 @@ public final class Promise11RunTest {
             int r = k;
             Check.due("register " + r, () -> forge.register(r), due[r]);
         }
+    }
+
+    /** One SPAN in as many places as ROUNDS of it are alive: 20 of it, and each value is the right one. */
+    private static void oneLongSpan(boolean laid) {
+        LoopForge forge = of("r0=i*i a[1*i]=5 r1=a[1*i] a[1*i]=r0", 3, 20, 5, 8, 1, 1, 8, 64);
+        Check.due("lay", forge::lay, 1);
+        Check.due("size", () -> forge.count(11), 20);
+        forge.run(laid);
+        for (int k = 0; k < 64; k++) {
+            int i = k;
+            Check.due("a of " + i, () -> forge.cell(0, 512 + i), i * i);
+        }
+        Check.due("r1", () -> forge.register(1), 5);
     }
 
     /** 48 ROWS, 64 ROUNDS: each ROW adds one to what the one before set. */
