@@ -104,9 +104,13 @@ final class Check {
         return forge.text();
     }
 
-    static LoopForge of(String text) {
+    /** An object with that LOOP, and settings by pairs: what, and to which value. */
+    static LoopForge of(String text, int... settings) {
         LoopForge forge = new LoopForge();
         same("text of " + text, read(forge, text), -1);
+        for (int k = 0; k < settings.length; k += 2) {
+            forge.set(settings[k], settings[k + 1]);
+        }
         return forge;
     }
 }

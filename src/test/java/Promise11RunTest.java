@@ -27,14 +27,6 @@ public final class Promise11RunTest {
         Check.ends();
     }
 
-    private static LoopForge of(String text, int... settings) {
-        LoopForge forge = Check.of(text);
-        for (int k = 0; k < settings.length; k += 2) {
-            forge.set(settings[k], settings[k + 1]);
-        }
-        return forge;
-    }
-
     private static void refusedWithoutALoop() {
         States.refusedState("run as written", forge -> forge.run(false), States.WITHOUT_LOOP);
         States.refusedState("run as laid", forge -> forge.run(true), States.WITHOUT_LOOP);
@@ -84,29 +76,29 @@ public final class Promise11RunTest {
     private static void cycles() {
         String text = "r0=a[1*i] r1=r0*3 r2=r1+r9 d[1*i]=r2";
         for (int n : new int[] {1, 2, 16, 63, 64}) {
-            LoopForge forge = of(text, 8, n);
+            LoopForge forge = Check.of(text, 8, n);
             Check.due("lay", forge::lay, 2);
             Check.due("cycles of " + n, () -> forge.run(true), 9 + 1 + (n - 1) * 2);
         }
         // The last ROW to begin is not the last whose TIME is over: 20 from 0, 1 and 1.
-        LoopForge early = of("r0=i*3 r1=i+1 r2=r1+1", 1, 20, 4, 3, 8, 1);
+        LoopForge early = Check.of("r0=i*3 r1=i+1 r2=r1+1", 1, 20, 4, 3, 8, 1);
         early.lay();
         Check.due("the greatest cycle", () -> early.count(9), 1);
         Check.due("cycles", () -> early.run(true), 20);
         // Of a set the TIME counts, too, and of a take that none uses.
-        LoopForge set = of("a[1*i]=1", 3, 20, 8, 5);
+        LoopForge set = Check.of("a[1*i]=1", 3, 20, 8, 5);
         set.lay();
         Check.due("cycles", () -> set.run(true), 24);
-        LoopForge take = of("r0=a[0]", 2, 20, 8, 5);
+        LoopForge take = Check.of("r0=a[0]", 2, 20, 8, 5);
         take.lay();
         Check.due("cycles", () -> take.run(true), 24);
-        LoopForge one = of("r0=i+1", 8, 1);
+        LoopForge one = Check.of("r0=i+1", 8, 1);
         one.lay();
         Check.due("cycles", () -> one.run(true), 1);
     }
 
     private static void theLatestRunCounts() {
-        LoopForge forge = of("r0=r1+1 d[0]=r0");
+        LoopForge forge = Check.of("r0=r1+1 d[0]=r0");
         forge.lay();
         forge.begin(1, 4);
         forge.run(false);
@@ -122,7 +114,7 @@ public final class Promise11RunTest {
     }
 
     private static void arraysAreNewInEachRun() {
-        LoopForge forge = of("r0=d[0] r1=r0+1 d[0]=r1", 8, 3);
+        LoopForge forge = Check.of("r0=d[0] r1=r0+1 d[0]=r1", 8, 3);
         forge.lay();
         for (int k = 0; k < 4; k++) {
             forge.run(k % 2 == 1);
@@ -132,7 +124,7 @@ public final class Promise11RunTest {
         // From end to end of each ARRAY, also behind another text and in the other way to run.
         for (int k = 0; k < 16; k++) {
             char array = (char) ('a' + k / 4);
-            LoopForge two = of(array + "[4*i+250]=-77 " + array + "[-4*i-250]=-77 " + array + "[1*i]=-77", 8, 64);
+            LoopForge two = Check.of(array + "[4*i+250]=-77 " + array + "[-4*i-250]=-77 " + array + "[1*i]=-77", 8, 64);
             two.lay();
             two.run(k % 2 == 1);
             Check.due("the last place", () -> two.cell(array - 'a', 1014), -77);
@@ -152,7 +144,7 @@ public final class Promise11RunTest {
 
     private static void gives(String text, int first, int second, int due) {
         for (boolean laid : new boolean[] {false, true}) {
-            LoopForge forge = of("r0 = " + text);
+            LoopForge forge = Check.of("r0 = " + text);
             forge.begin(1, first);
             forge.begin(2, second);
             forge.lay();
@@ -218,7 +210,7 @@ public final class Promise11RunTest {
 
     private static void usesOfThisRoundAndTheOneBefore(boolean laid) {
         // r1 is that of the ROUND before, at first from BEGIN; r0 that of this ROUND.
-        LoopForge forge = of("r0=r1+0 r1=i+10 r2=r1+r0 a[1*i]=r0 b[1*i]=r2", 8, 4);
+        LoopForge forge = Check.of("r0=r1+0 r1=i+10 r2=r1+r0 a[1*i]=r0 b[1*i]=r2", 8, 4);
         forge.begin(1, 77);
         forge.lay();
         forge.run(laid);
@@ -240,7 +232,7 @@ public final class Promise11RunTest {
     }
 
     private static void rowsInTheirOrder(boolean laid) {
-        LoopForge forge = of("r0=d[0] d[0]=7 r1=d[0] d[0]=8 r2=d[0]", 8, 1);
+        LoopForge forge = Check.of("r0=d[0] d[0]=7 r1=d[0] d[0]=8 r2=d[0]", 8, 1);
         forge.lay();
         forge.run(laid);
         Check.due("before", () -> forge.register(0), 0);
@@ -252,7 +244,7 @@ public final class Promise11RunTest {
     private static void setsAndTakes(boolean laid) {
         for (int time : new int[] {1, 2, 3, 20}) {
             // A take just as late as the set's TIME allows, and a set as early as a take allows: in its cycle.
-            LoopForge forge = of("d[1*i]=i r0=d[1*i] r1=b[1*i] b[1*i]=-1 c[1*i+3]=r1 r2=c[1*i]", 3, time, 5, 8, 7, 16);
+            LoopForge forge = Check.of("d[1*i]=i r0=d[1*i] r1=b[1*i] b[1*i]=-1 c[1*i+3]=r1 r2=c[1*i]", 3, time, 5, 8, 7, 16);
             forge.set(8, 9);
             Check.same("laid", forge.lay() > 0, true);
             Check.due("set, take", () -> forge.row(1, 0) - forge.row(0, 0), time);
@@ -271,7 +263,7 @@ public final class Promise11RunTest {
     private static void setsOfOneInt(boolean laid) {
         for (int time : new int[] {1, 2, 20}) {
             // The later ROW of a ROUND, and the later ROUND of a ROW, is what stays.
-            LoopForge forge = of("a[0]=i a[0]=r9 b[1*i]=i b[1*i-2]=r9 c[0]=i", 3, time, 5, 8, 7, 16);
+            LoopForge forge = Check.of("a[0]=i a[0]=r9 b[1*i]=i b[1*i-2]=r9 c[0]=i", 3, time, 5, 8, 7, 16);
             forge.begin(9, -5);
             Check.same("laid", forge.lay() > 0, true);
             forge.run(laid);
@@ -286,7 +278,7 @@ public final class Promise11RunTest {
 
     private static void longSpans(boolean laid) {
         // Values in 128 rotating places, most of them alive over many ROUNDS.
-        LoopForge forge = of("r1=i*i r2=r1+1 r3=r2+1 r4=r3+i r5=r4+1 r6=r5+1 r7=r6+r5 r8=r7+r4 d[1*i]=r8",
+        LoopForge forge = Check.of("r1=i*i r2=r1+1 r3=r2+1 r4=r3+i r5=r4+1 r6=r5+1 r7=r6+r5 r8=r7+r4 d[1*i]=r8",
                 0, 18, 4, 8, 7, 16, 8, 64);
         forge.lay();
         Check.due("size", () -> forge.count(11), 128);
@@ -307,7 +299,7 @@ public final class Promise11RunTest {
 
     /** One SPAN in as many places as ROUNDS of it are alive: 20 of it, and each value is the right one. */
     private static void oneLongSpan(boolean laid) {
-        LoopForge forge = of("r0=i*i a[1*i]=5 r1=a[1*i] a[1*i]=r0", 3, 20, 5, 8, 1, 1, 8, 64);
+        LoopForge forge = Check.of("r0=i*i a[1*i]=5 r1=a[1*i] a[1*i]=r0", 3, 20, 5, 8, 1, 1, 8, 64);
         Check.due("lay", forge::lay, 1);
         Check.due("size", () -> forge.count(11), 20);
         forge.run(laid);
@@ -327,7 +319,7 @@ public final class Promise11RunTest {
         for (int x = 0; x < 16; x++) {
             text.append("d[1*i+" + 64 * (x % 4) + "]=r" + (2 * x + 1) + " ");
         }
-        LoopForge forge = of(text.toString(), 8, 64);
+        LoopForge forge = Check.of(text.toString(), 8, 64);
         Check.due("rows", () -> forge.count(0), 48);
         Check.due("lay", forge::lay, 32);
         int cycles = forge.count(9) + 1 + 63 * 32;
@@ -345,7 +337,7 @@ public final class Promise11RunTest {
 
     /** The first one that was placed lost cycle 0 and none got it back: the run begins with the least all the same. */
     private static void theLeastIsTakenFromAll(boolean laid) {
-        LoopForge forge = of("r0=r1*2 r1=r1*3 d[1*i]=r0 r2=d[1*i]", 8, 20);
+        LoopForge forge = Check.of("r0=r1*2 r1=r1*3 d[1*i]=r0 r2=d[1*i]", 8, 20);
         forge.begin(1, 1);
         Check.due("lay", forge::lay, 3);
         Check.due("r0", () -> forge.row(0, 0), 1);
@@ -372,7 +364,7 @@ public final class Promise11RunTest {
     private static void bothTellTheSame() {
         String text = "r0=a[1*i] r1=a[1*i-2] r2=r0*r1 r3=r3+r2 a[1*i+1]=r3 b[1*i]=r2 b[1*i-3]=i r4=max(r5 r3) r5=r4^r0";
         for (int n : new int[] {1, 2, 3, 40, 64}) {
-            LoopForge forge = of(text, 3, 4, 8, n);
+            LoopForge forge = Check.of(text, 3, 4, 8, n);
             forge.begin(3, 1234567);
             forge.begin(5, -1);
             forge.lay();

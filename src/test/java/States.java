@@ -1,4 +1,6 @@
+import java.util.List;
 import java.util.function.Consumer;
+import java.util.function.Function;
 
 /**
  * Objects in each state that the document tells apart, and what can be seen of one: enough of all that it has, but
@@ -97,14 +99,15 @@ enum States {
         }
     }
 
+    /** Each look has objects of its own: looks have refused calls, too, that would spoil both for the next look. */
     private static void changesNothing(String what, States state, Consumer<LoopForge> call) {
-        LoopForge all = state.make();
-        call.accept(all);
-        alike("behind " + what, allSeen(all), allSeen(state.make()));
-        // allSeen has refused calls, too: what only these would change is the same for both.
-        LoopForge next = state.make();
-        call.accept(next);
-        alike("next behind " + what, nextSeen(next), nextSeen(state.make()));
+        List<Function<LoopForge, String>> looks = List.of(
+                States::allSeen, States::nextSeen, States::layingSeen, States::runSeen);
+        for (Function<LoopForge, String> look : looks) {
+            LoopForge forge = state.make();
+            call.accept(forge);
+            alike("behind " + what, look.apply(forge), look.apply(state.make()));
+        }
     }
 
     static void refusedArgument(String what, Call call, States... states) {
